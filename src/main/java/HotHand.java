@@ -1128,7 +1128,7 @@ public final class HotHand {
             place++;
         }
 
-        /** Whether a comparison holds that Rules.compare() wrote. */
+        /** Whether a comparison holds; it comes as the Reader writes it: word, sign and number in one. */
         boolean meets(int code) {
             int own = wordOf(code >> 14);
             int number = code & 127;
@@ -1173,11 +1173,7 @@ public final class HotHand {
             written = 0;
         }
 
-        void compare(int word, int sign, int number) {
-            write((word << 14) | (sign << 7) | number);
-        }
-
-        /** Writes a word that joins; no comparison is a number as low as these. */
+        /** Takes "not", "and", "or" by their numbers, and comparisons, which are all greater numbers. */
         void write(int code) {
             if (written < MOST_CODES) {
                 codes[written] = code;
@@ -1403,7 +1399,8 @@ public final class HotHand {
                         to++;
                     }
                     kinds[tokens] = kind;
-                    contents[tokens] = kind == WORD ? wordIn(from, to) : kind == NUMBER ? numberIn(from, to) : tape[from];
+                    contents[tokens] = kind == WORD ? wordIn(from, to)
+                            : kind == NUMBER ? numberIn(from, to) : tape[from];
                     places[tokens] = from;
                     tokens++;
                 }
@@ -1458,11 +1455,11 @@ public final class HotHand {
         }
 
         private boolean isWordOf(int first, int last) {
-            return kinds[at] == WORD && isIn(contents[at], first, last);
+            return kinds[at] == WORD && contents[at] >= first && contents[at] <= last;
         }
 
         private boolean isNumber(int least, int most) {
-            return kinds[at] == NUMBER && isIn(contents[at], least, most);
+            return kinds[at] == NUMBER && contents[at] >= least && contents[at] <= most;
         }
 
         private boolean isSign(char sign) {
@@ -1586,7 +1583,7 @@ public final class HotHand {
             if (!isNumber(0, 99)) {
                 return false;
             }
-            into.compare(word, sign, take());
+            into.write((word << 14) | (sign << 7) | take());
             return true;
         }
 

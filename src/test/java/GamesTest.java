@@ -140,6 +140,7 @@ public final class GamesTest {
         Due.due("n 0", x.worlds(0, 0, 5, 1, 0), NO);
         Due.due("n 25", x.worlds(0, 25, 5, 1, 0), NO);
         Due.due("none", x.worlds(0, 5, 0, 1, 0), NO);
+        Due.due("none", x.worlds(0, 5, 0, 1, 2), NO);
         Due.due("61", x.worlds(0, 5, 61, 1, 2), NO);
         Due.due("no such thrower", x.worlds(1, 5, 5, 1, 0), NO);
         Due.due("no such thrower", x.worlds(-1, 5, 5, 1, 0), NO);

@@ -184,8 +184,8 @@ public final class MeasuresTest {
         Due.due("of an empty row", x.right(1, 1, 5, 0), NO);
         Due.due("of 13", x.right(3, 1, 5, 0), NO);
         Due.due("no value", x.right(4, 0, 5, 0), NO);
-        Due.due("p 0", x.right(0, 0, 0, 0), NO);
-        Due.due("p 10", x.right(0, 0, 10, 0), NO);
+        Due.due("p 0", x.right(0, 1, 0, 0), NO);
+        Due.due("p 10", x.right(0, 1, 10, 0), NO);
         Due.due("no such row", x.right(5, 0, 5, 0), NO);
         Due.due("no such row", x.right(-1, 0, 5, 0), NO);
         Due.due("no such measure", x.right(0, 3, 5, 0), NO);

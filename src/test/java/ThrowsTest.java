@@ -222,6 +222,7 @@ public final class ThrowsTest {
 
     private static void chance() {
         chanceOf("", 50);
+        chanceOf("hard 3; guard 3;", 50);
         chanceOf("harder 10;", 50);
         chanceOf("hard 2; harder 10;", 30);
         chanceOf("hard 2; harder 10; harder 3;", 44);

@@ -36,6 +36,9 @@ public final class TrialsTest {
         Due.due("held to 0 tenths", x.power(3, 1, 9, 13, 1), x.power(3, 1, 9, 13, 2), 1, 10);
         Due.due("a line that can't be reached", x.power(12, 9, 9, 1, 1), x.power(12, 9, 9, 1, 2), 0, 1);
         Due.due("of 12", x.power(12, 1, 9, 1, 1) > 0, true);
+        // Of three pairs at most: HHHH 343 * 5, two pairs: HHHM 147 * 5, MHHH 49 * 5 * 3, of 10,000.
+        Due.due("of four", x.power(4, 5, 2, 19, 0), 2);
+        Due.due("of four", x.power(4, 5, 2, 19, 1), x.power(4, 5, 2, 19, 2), 637, 2000);
     }
 
     private static void powerEdges() {

@@ -114,6 +114,12 @@ public final class WatchersTest {
         Due.due("no bets", x.odds(3, 0, 1), 1);
         Due.due("no throws", x.odds(0, 1, 0), 1);
         Due.due("no throws", x.odds(0, 1, 1), 1);
+        Due.due("what 2", x.odds(0, 0, 2), HotHand.NONE);
+        Due.due("what -1", x.odds(0, 0, -1), HotHand.NONE);
+        Due.due("no such watcher", x.odds(4, 0, 0), HotHand.NONE);
+        Due.due("no such watcher", x.odds(-1, 0, 0), HotHand.NONE);
+        Due.due("no such thrower", x.odds(0, 2, 0), HotHand.NONE);
+        Due.due("no such thrower", x.odds(0, -1, 0), HotHand.NONE);
     }
 
     private static void oddsEdges() {
@@ -133,12 +139,6 @@ public final class WatchersTest {
         Due.due("61 throws", x.odds(0, 0, 1), HotHand.NONE);
         Due.due("61 throws", x.odds(0, 0, 0), HotHand.NONE);
         Due.due("bets are told", x.bets(0, 0, 0), 31);
-        Due.due("no such watcher", x.odds(4, 0, 0), HotHand.NONE);
-        Due.due("no such watcher", x.odds(-1, 0, 0), HotHand.NONE);
-        Due.due("no such thrower", x.odds(0, 1, 0), HotHand.NONE);
-        Due.due("no such thrower", x.odds(0, -1, 0), HotHand.NONE);
-        Due.due("what 2", x.odds(0, 0, 2), HotHand.NONE);
-        Due.due("what -1", x.odds(0, 0, -1), HotHand.NONE);
     }
 
     private static void foretold() {
@@ -158,6 +158,12 @@ public final class WatchersTest {
         Due.due("between", x.foretold(0, 21, 59, 2), 0);
         Due.due("the first above the other", x.foretold(0, 61, 60, 2), 0);
         Due.due("without a law", x.foretold(1, 50, 50, 2), 3);
+        Due.due("0 to 0", x.foretold(1, 0, 0, 2), 0);
+        Due.due("100 to 100", x.foretold(1, 100, 100, 2), 0);
+        Due.due("100 to 0", x.foretold(1, 100, 0, 1), 0);
+        Due.law(x, 1, "hit 100 if place = 0; hit 0;");
+        Due.due("0 to 0", x.foretold(1, 0, 0, 2), 2);
+        Due.due("100 to 100", x.foretold(1, 100, 100, 0), 100);
         Due.due("from -1", x.foretold(0, -1, 100, 0), HotHand.NONE);
         Due.due("from 101", x.foretold(0, 101, 100, 0), HotHand.NONE);
         Due.due("to 101", x.foretold(0, 0, 101, 0), HotHand.NONE);
