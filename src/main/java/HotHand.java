@@ -97,7 +97,7 @@ public final class HotHand {
         if (!isOnTape(n) || !court.hasThrower(thrower)) {
             return NOT_TAKEN;
         }
-        if (!closeText(reader.readLaw(n, spare))) {
+        if (!closeText(reader.readRules(n, true, spare))) {
             return NONE;
         }
         Rules old = laws[thrower];
@@ -110,7 +110,7 @@ public final class HotHand {
         if (!isOnTape(n) || !isWatcher(watcher)) {
             return NOT_TAKEN;
         }
-        if (!closeText(reader.readBelief(n, spare))) {
+        if (!closeText(reader.readRules(n, false, spare))) {
             return NONE;
         }
         Rules old = beliefs[watcher];
@@ -1345,22 +1345,12 @@ public final class HotHand {
             return places[at];
         }
 
-        boolean readLaw(int n, Rules into) {
+        /** Reads a LAW or else a BELIEF; what stands in a 25th rule's place is its FAULT. */
+        boolean readRules(int n, boolean isLaw, Rules into) {
             into.clear();
             open(n);
             for (int i = 0; i < MOST_RULES && kinds[at] != END; i++) {
-                if (!readRule(into)) {
-                    return false;
-                }
-            }
-            return kinds[at] == END;
-        }
-
-        boolean readBelief(int n, Rules into) {
-            into.clear();
-            open(n);
-            for (int i = 0; i < MOST_RULES && kinds[at] != END; i++) {
-                if (!readStatement(into)) {
+                if (!(isLaw ? readRule(into) : readStatement(into))) {
                     return false;
                 }
             }

@@ -138,6 +138,7 @@ public final class GamesTest {
         Due.due("the most", x.worlds(0, 24, 60, 1, 0), 1);
         Due.due("the most", x.worlds(0, 24, 60, 1, 2), 60);
         Due.due("n 0", x.worlds(0, 0, 5, 1, 0), NO);
+        Due.due("n 0", x.worlds(0, 0, 5, 1, 2), NO);
         Due.due("n 25", x.worlds(0, 25, 5, 1, 0), NO);
         Due.due("none", x.worlds(0, 5, 0, 1, 0), NO);
         Due.due("none", x.worlds(0, 5, 0, 1, 2), NO);

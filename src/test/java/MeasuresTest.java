@@ -245,6 +245,11 @@ public final class MeasuresTest {
         Due.due("at least", x.together(1, 0), 3);
         Due.due("all", x.together(1, 1), 6);
         Due.due("pairs", x.together(1, 2), 5);
+        // Of HHHMM: HHH together 3 ways (2 pairs), two and one 6 ways, apart 1 way.
+        HotHand y = Due.with(1);
+        Due.row(y, 0, "HHMHM");
+        Due.due("one pair at least", y.together(0, 0), 9);
+        Due.due("of", y.together(0, 1), 10);
         Due.due("without rows", x.together(2, 0), 1);
         Due.due("without rows", x.together(2, 1), 1);
         Due.due("without rows", x.together(2, 2), 0);

@@ -56,6 +56,10 @@ public final class PeopleTest {
         row(x, 2, "MHH", "000");
         // 1 less 1 * 2/3.
         Due.due("above 0", x.off(2, 0), x.off(2, 1), 1, 3);
+        row(x, 2, "MHH", "113");
+        row(x, 2, "MMHHM", "11333");
+        // Hard 1: none behind a HIT; hard 3: 2 less 3 * 3/4.
+        Due.due("of three", x.off(2, 0), x.off(2, 1), 1, 12);
         Due.due("no such thrower", x.off(3, 0), NO);
         Due.due("no such thrower", x.off(-1, 0), NO);
         Due.due("no such what", x.off(0, 2), NO);

@@ -82,6 +82,10 @@ public final class TextsTest {
         lawFault("hit 50 if", 9);
         lawFault("hit 50 if run > 1 and", 21);
         lawFault("hit 50 if (run > 1", 18);
+        lawFault("hit 50 if run > 1 or", 20);
+        lawFault("hit 50 if run > 1 or;", 20);
+        lawFault("hit 50 if run > 1 and;", 21);
+        lawFault("hit 50 if not;", 13);
         lawFault("hit 101;", 4);
         lawFault("hit 0050;", 4);
         lawFault("hard 4;", 5);
@@ -187,6 +191,11 @@ public final class TextsTest {
                 Due.due("of five bytes", n, 5);
             }
         }
+        HotHand y = new HotHand();
+        Due.feed(y, "shares");
+        Due.due("a word goes on to the text's end alone", y.measure(5), 0);
+        Due.feed(y, "after hit 55");
+        Due.due("a number goes on to the text's end alone", y.measure(11), 1);
         int n = Due.feed(x, "sh?");
         Due.due("12 are there", x.measure(n), -3);
         Due.due("nothing done", x.count(6), 20);

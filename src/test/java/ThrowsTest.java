@@ -221,6 +221,10 @@ public final class ThrowsTest {
     }
 
     private static void chance() {
+        HotHand x = Due.with(1);
+        x.row(0);
+        x.thrown(0, true, 3, 3);
+        Due.due("without a law", x.told(0, 0, 4), 50);
         chanceOf("", 50);
         chanceOf("hard 3; guard 3;", 50);
         chanceOf("harder 10;", 50);
