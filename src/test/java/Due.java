@@ -4,8 +4,19 @@ import java.nio.charset.StandardCharsets;
 final class Due {
     private static int asked = 0;
     private static int wrong = 0;
+    private static String heading = "";
 
     private Due() {
+    }
+
+    /** What the answers from here on are due by: it's told with each that is wrong. */
+    static void under(String words) {
+        heading = words.isEmpty() ? "" : words + ": ";
+    }
+
+    /** How many answers were asked for up to now. */
+    static int asked() {
+        return asked;
     }
 
     static void due(String call, long got, long want) {
@@ -13,7 +24,7 @@ final class Due {
         if (got != want) {
             wrong++;
             if (wrong <= 50) {
-                System.out.println(call + " answered " + got + ", due is " + want);
+                System.out.println(heading + call + " answered " + got + ", due is " + want);
             }
         }
     }
