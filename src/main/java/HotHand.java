@@ -967,12 +967,8 @@ public final class HotHand {
         }
 
         int addRow(int thrower) {
-            // A ROW of before back() may have stood here.
+            // All else is 0 here: copy() brings what lies behind the last ROW of an IMAGE, too.
             owners[rows] = thrower;
-            lengths[rows] = 0;
-            hits[rows] = 0;
-            hards[rows] = 0;
-            guards[rows] = 0;
             rows++;
             return rows - 1;
         }

@@ -126,6 +126,25 @@ final class AtImages {
             Due.due("nothing of what stood there", y.told(0, 0, what), 0);
         }
         Due.due("hits", y.count(3), 0);
+        // A row's thrower, and how hard and guarded throws are, come back, too, behind others in its place.
+        HotHand was = Due.with(2);
+        was.image();
+        was.row(1);
+        was.thrown(0, true, 3, 1);
+        was.thrown(0, false, 0, 2);
+        was.image();
+        was.back(0);
+        was.row(0);
+        was.thrown(0, false, 1, 3);
+        was.thrown(0, true, 2, 0);
+        was.back(1);
+        Due.due("its thrower", was.told(0, NONE, 0), 1);
+        int[][] due = {{1, 3, 1}, {0, 0, 2}};
+        for (int k = 0; k < 2; k++) {
+            for (int what = 0; what <= 2; what++) {
+                Due.due("told(0, " + k + ", " + what + ")", was.told(0, k, what), due[k][what]);
+            }
+        }
         // To more than there is now.
         HotHand z = Due.with(0);
         z.image();

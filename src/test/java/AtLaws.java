@@ -99,6 +99,15 @@ final class AtLaws {
         isNone("hit 1 if or run > 1;", 9);
         isNone("hit 1 if run > 1 or;", 19);
         isNone("hit 1 if run > 1 and or run > 1;", 21);
+        isNone("hit 1 if run > 1 and;", 20);
+        isNone("hit 1 if (run > 1 and);", 21);
+        isNone("hit 1 if (run > 1 or);", 20);
+        isNone("hit 1 if not;", 12);
+        isNone("hit 1 if (not);", 13);
+        isNone("hit 1 if not and run > 1;", 13);
+        isNone("hit 1 if run;", 12);
+        isNone("hit 1 if (run);", 13);
+        isNone("hit 1 if run >;", 14);
         isNone("hit 1 if run > 1 not run > 1;", 17);
         isNone("hit 1 if (run > 1;", 17);
         isNone("hit 1 if run > 1);", 16);
@@ -165,6 +174,8 @@ final class AtLaws {
         isNone("hit 1 if notrun > 1;", 9);
         isNone("hit 1x;", 5);
         isNone("hitx1;", 0);
+        isNone("hita 1;", 0);
+        isNone("hitz 1;", 0);
         // The last byte of a text ends its token, whatever lies behind it on the tape.
         HotHand x = Due.with(1);
         Due.feed(x, "hit 100;");
@@ -223,6 +234,9 @@ final class AtLaws {
         isNone("hit 1; foo ?", 7);
         // A byte that begins none ends the token ahead of it.
         isNone("hit 1?;", 5);
+        // As many tokens as there can be.
+        isNone(";".repeat(600), 0);
+        isNone("?".repeat(600), 0);
         Doc.at(Doc.TERMS, "(a number that isn't so, the ninth open, too);");
         isNone("hit   101;", 6);
         isNone("state 10", 6);
@@ -249,6 +263,9 @@ final class AtLaws {
         isNone("harder 9", 8);
         isNone(" ".repeat(597) + "hit", 600);
         isNone("hit" + " ".repeat(597), 600);
+        // A full tape's last byte is a word's or a number's.
+        isNone(" ".repeat(595) + "guard", 600);
+        isNone(" ".repeat(595) + "hit 9", 600);
         Doc.at(Doc.TERMS, "the 25th RULE: where it begins.");
         isLaw("hit 1;".repeat(24) + "  ", 24);
         isNone("hit 1;".repeat(25), 144);

@@ -14,6 +14,7 @@ final class AtLeans {
         shuffled();
         shuffle();
         together();
+        togetherByTurns();
         togetherAtItsLimit();
         streak();
     }
@@ -189,6 +190,33 @@ final class AtLeans {
         togetherOf(rows("H".repeat(12) + "M".repeat(12)), 13, 2704156, 11);
         togetherOf(rows("HM".repeat(12)), 2704156, 2704156, 0);
         togetherOf(rows("H" + "M".repeat(23), "H".repeat(23) + "M"), 24 * 2, 24 * 24, 22);
+    }
+
+    /** One object is asked of several throwers: nothing of one is left in another one's ways. */
+    private static void togetherByTurns() {
+        HotHand x = Due.with(3);
+        Due.law(x, 0, "hit 100;");
+        for (int i = 0; i < 58; i++) {
+            x.row(0);
+            x.deal(i, 24);
+        }
+        Due.row(x, 1, "HHHMM");
+        Due.row(x, 2, "HMHM");
+        for (int i = 0; i < 2; i++) {
+            Due.due("all HITS: at least", x.together(0, 0), 1);
+            Due.due("all HITS: all", x.together(0, 1), 1);
+            Due.due("all HITS: pairs", x.together(0, 2), 58 * 23);
+            Due.due("3 of 10", x.together(1, 0), 3);
+            Due.due("6 of 6", x.together(2, 0), 6);
+        }
+        HotHand y = Due.with(1);
+        Due.law(y, 0, "hit 100;");
+        for (int i = 0; i < 60; i++) {
+            y.row(0);
+            y.deal(i, 24);
+        }
+        Due.due("the most pairs", y.together(0, 2), 60 * 23);
+        Due.due("the most pairs: at least", y.together(0, 0), 1);
     }
 
     /** Rows of one HIT, each with as many orders as throws. */

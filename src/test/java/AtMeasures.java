@@ -111,6 +111,11 @@ final class AtMeasures {
             isNone(word + " hits", word.length() + 1);
             isNone(word + " + hits", word.length() + 1);
         }
+        for (String word : new String[] {"run", "miss", "place", "hard", "state", "pass", "if", "and", "not", "afters"}) {
+            isNone(word, 0);
+            isNone(word + " hit", 0);
+            isNone("hits + " + word + " hit 1", 7);
+        }
         Doc.at(Doc.TERMS, "N: 1 to 5.");
         isNone("after hit 0", 10);
         isMeasure("after hit 1");

@@ -148,6 +148,11 @@ final class AtPeople {
         hundredthsOf(100, 101, 99);
         hundredthsOf(99, 100, 99);
         hundredthsOf(7, 24, 29);
+        HotHand several = people(70, 20, 100, 0);
+        Due.due("of several, the first", several.hundredths(0), 70);
+        Due.due("of several, the second", several.hundredths(1), 20);
+        Due.due("of several, the third", several.hundredths(2), 100);
+        Due.due("of several, the last", several.hundredths(3), 0);
         Doc.at(28, "HUNDREDTHS. NONE: none such, no THROWS.");
         hundredthsOf(0, 0, NONE);
         HotHand x = Due.with(2);
@@ -215,6 +220,7 @@ final class AtPeople {
         groupsOf(people(0, 50, 100), 3, 0, 1, 1, 1);
         Doc.at(29, "NONE: none such, fewer THROWERS with THROWS than k.");
         Edge.of("k", 1, 3, NONE, k -> people(0, 50, 100).groups(k, 0));
+        Edge.of("k", 1, 3, NONE, k -> people(0, 50, 100, 20, 30, 70).groups(k, 1));
         Edge.of("what", 0, 3, NONE, what -> people(0, 50, 100).groups(3, what));
         for (int k = 1; k <= 3; k++) {
             for (int what = 0; what <= 3; what++) {
@@ -251,6 +257,14 @@ final class AtPeople {
         Due.due("100 hundredths", x.above(100), 1 << 11);
         Due.due("1 hundredth", x.above(1), 1 | 1 << 11);
         Due.due("0 hundredths: alike, too", x.above(0), 3 | 1 << 11);
+        // 2 of 3 above 0 of 1; 1 of 1 above 1 of 3: 66.7 hundredths.
+        HotHand thirds = Due.with(2);
+        Due.row(thirds, 0, "HHHM");
+        Due.row(thirds, 0, "MM");
+        Due.row(thirds, 1, "HH");
+        Due.row(thirds, 1, "MMMH");
+        Due.due("66 hundredths", thirds.above(66), 3);
+        Due.due("67 hundredths", thirds.above(67), 0);
         Doc.at(30, "ABOVE: as bits.");
         Due.due("the last thrower's bit", x.above(90), 2048);
         Due.due("nobody", new HotHand().above(0), 0);

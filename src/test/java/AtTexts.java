@@ -100,6 +100,16 @@ final class AtTexts {
         Due.due("the last thrower", x.law(1, 0), 0);
         Due.due("24 rules", Due.law(x, 1, "hit 1;".repeat(24)), 24);
         Due.due("the other one's", x.count(10), 0);
+        // Nothing of a law that was, nor of one with a fault, is left in the next ones.
+        for (String text : new String[] {"guarded 9; harder 9; state 5; hit 1;", "harder 9; guarded 9; hard 2; ?"}) {
+            for (int i = 0; i < 3; i++) {
+                Due.law(x, 1, text);
+                Due.due("a law of two", Due.law(x, 0, "hard 1; guard 1;"), 2);
+                Due.due("its chance", x.next(0, 2), 50);
+                Due.due("its hard", x.next(0, 0), 1);
+                Due.due("its state", x.next(0, 3), 0);
+            }
+        }
         Doc.at(4, "NONE: a FAULT (what was stays);");
         x = used();
         Due.due("six of seven bytes", x.law(0, 6), NONE);
@@ -190,6 +200,7 @@ final class AtTexts {
         }
         Due.due("a fault", Due.measure(x, "4 hits"), NONE);
         Due.due("measures", x.count(4), 4);
+        Due.due("a fault behind two terms", Due.measure(x, "2 hits + 3 hits + ?"), NONE);
         Due.due("a measure behind a fault", Due.measure(x, "runs"), 4);
         Due.due("its value", x.value(0, 4, 0), 3);
         Due.due("those of before", x.value(0, 3, 0), 6);

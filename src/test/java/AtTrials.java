@@ -53,8 +53,10 @@ final class AtTrials {
         powerOf(3, 5, 4, 38, 99, 200);
         powerOf(3, 5, 5, 38, 1, 2);
         powerOf(3, 5, 6, 38, 1, 2);
-        // All of 12 by 1 tenth, then 10 of 10 each.
-        powerOf(12, 1, 9, 1, 1, 10);
+        // A HIT by 1 tenth, then all by 10 of 10; behind a miss none.
+        for (int n = 2; n <= 12; n++) {
+            powerOf(n, 1, 9, 1, 1, 10);
+        }
     }
 
     private static void line() {
@@ -177,6 +179,14 @@ final class AtTrials {
         // 4 of 20, twice: 16 of 400.
         says(1, 4, 2, "HHHMMM", "MMHHHM");
         says(1, 3, 0, "HHHMMM", "MMHHHM");
+        // 175 of 210 orders, 246 of 252.
+        says(1, 84, 2, "HHMHMHMMMM");
+        Due.due("175 of 210 at 83", thrower("HHMHMHMMMM").say(0, 1, 83) == 2, false);
+        says(1, 98, 2, "HHMHMHMHMM");
+        Due.due("246 of 252 at 97", thrower("HHMHMHMHMM").say(0, 1, 97) == 2, false);
+        for (int w = 80; w <= 99; w++) {
+            Due.due("495 of 495 at " + w, thrower("HMHMHMHMMMMM").say(0, 1, w) == 2, false);
+        }
         // 13 of 2704156, and one of one.
         says(1, 1, 2, "H".repeat(12) + "M".repeat(12));
         says(1, 99, 2, "HHMM");
@@ -200,6 +210,9 @@ final class AtTrials {
         says(9, 25, 1, "HM");
         says(4, 25, 0, "HM");
         says(5, 24, 0, "HM");
+        // In a row of three it's 49.5 by 4 tenths more, by 5 it's 50.
+        says(4, 38, 0, "HMH", "M");
+        says(5, 38, 1, "HMH", "M");
         // HH by 6 tenths and 9 tenths is 54, and 8 tenths 48.
         says(3, 36, 1, "HM", "H");
         says(2, 36, 0, "HM", "H");

@@ -206,6 +206,15 @@ final class AtWatchers {
                 Due.due("from " + d[0] + " to " + d[1] + ", " + what, x.foretold(0, d[0], d[1], what), d[2 + what]);
             }
         }
+        HotHand guarded = Due.with(1);
+        Due.law(guarded, 0, "hit 90; harder 5; guarded 7; state 1 if hard = 3;");
+        guarded.row(0);
+        guarded.thrown(0, true, 3, 0);
+        guarded.thrown(0, false, 0, 3);
+        guarded.thrown(0, true, 1, 1);
+        Due.due("with hard and guards as they were", guarded.foretold(0, 75, 75, 2), 1);
+        Due.due("with hard and guards as they were", guarded.foretold(0, 69, 69, 2), 1);
+        Due.due("with hard and guards as they were", guarded.foretold(0, 0, 100, 0), 75 + 69 + 78);
         Doc.at(36, "FORETOLD (CHANCES 0 to 100; the first above the other one: of no THROWS): together (what 0), HITS (1),"
                 + " all (2).");
         for (int what = 0; what <= 2; what++) {
@@ -251,6 +260,14 @@ final class AtWatchers {
         HotHand y = Due.with(1);
         Due.row(y, 0, "H".repeat(24));
         heatOf(y, "state 1;", 23, 23, 1, 23);
+        HotHand guarded = Due.with(1);
+        guarded.row(0);
+        guarded.thrown(0, true, 0, 1);
+        guarded.thrown(0, true, 3, 0);
+        guarded.thrown(0, false, 0, 2);
+        guarded.thrown(0, true, 0, 0);
+        heatOf(guarded, "state 1 if hard = 3; state 0;", 1, 0, 1, 1);
+        heatOf(guarded, "state 1 if guard > 0; state 0;", 2, 2, 2, 1);
         Doc.at(37, "HEAT: THROWS (what 0), HITS (1), rows (2), the longest (3).");
         heatOf(x, "state 1 if miss > 0;", 2, 1, 2, 1);
         Due.due("another one's", x.heat(1, 0), 0);
