@@ -2,11 +2,13 @@ import java.io.IOException;
 import java.io.UncheckedIOException;
 import java.nio.file.Files;
 import java.nio.file.Path;
+import java.util.ArrayList;
 import java.util.BitSet;
+import java.util.List;
 import java.util.Map;
 import java.util.TreeMap;
 
-/** The document's sentences, by the promise they stand in: tests name them, and none may be left out. */
+/** The document's sentences, by the promise they stand in: tests name them, and none may be left out; and its face. */
 final class Doc {
     static final int TERMS = 0;
     static final int WHAT_IT_IS = -1;
@@ -34,16 +36,14 @@ final class Doc {
         askedBefore = Due.asked();
     }
 
-    /** Each sentence of the terms and of every promise must have been named. */
+    /** Each sentence of what it is, of the terms and of every promise must have been named. */
     static void end() {
         close();
         Due.under("");
         Due.due("promises in the document", TEXTS.keySet().stream().filter(p -> p > 0).count(), PROMISES);
         for (Map.Entry<Integer, String> e : TEXTS.entrySet()) {
-            if (e.getKey() >= TERMS) {
-                String left = unquoted(e.getValue(), QUOTED.getOrDefault(e.getKey(), new BitSet()));
-                Due.due(nameOf(e.getKey()) + " without a test: " + left, left.isEmpty(), true);
-            }
+            String left = unquoted(e.getValue(), QUOTED.getOrDefault(e.getKey(), new BitSet()));
+            Due.due(nameOf(e.getKey()) + " without a test: " + left, left.isEmpty(), true);
         }
     }
 
@@ -66,15 +66,32 @@ final class Doc {
         return left.toString().trim().replaceAll(" +", " ");
     }
 
-    private static Map<Integer, String> read() {
-        Map<Integer, String> texts = new TreeMap<>();
-        String all;
+    /** The lines of the public face, as they stand, without blanks around them. */
+    static List<String> face() {
+        List<String> lines = new ArrayList<>();
+        for (String section : sections()) {
+            if (section.startsWith("The public face")) {
+                for (String line : section.split("\n")) {
+                    if (line.trim().startsWith("public ")) {
+                        lines.add(line.trim());
+                    }
+                }
+            }
+        }
+        return lines;
+    }
+
+    private static String[] sections() {
         try {
-            all = Files.readString(Path.of("../shared/DOC.md"));
+            return Files.readString(Path.of("../shared/DOC.md")).split("(?m)^## ");
         } catch (IOException e) {
             throw new UncheckedIOException(e);
         }
-        for (String section : all.split("(?m)^## ")) {
+    }
+
+    private static Map<Integer, String> read() {
+        Map<Integer, String> texts = new TreeMap<>();
+        for (String section : sections()) {
             int end = section.indexOf('\n');
             String title = end < 0 ? section : section.substring(0, end);
             // What sets the text off isn't part of a sentence; nor is a method's head.

@@ -1,6 +1,7 @@
 /** The document sentence by sentence: each is named, and asked for at its boundaries. */
 public final class SentencesTest {
     public static void main(String[] args) {
+        AtFace.run();
         AtLaws.run();
         AtTexts.run();
         AtDraws.run();
