@@ -9,6 +9,7 @@ final class AtImages {
         images();
         image();
         back();
+        backOfLast();
         backRefused();
         counts();
         countsOfTexts();
@@ -161,6 +162,46 @@ final class AtImages {
         Due.due("throwers", z.count(0), 12);
         Due.due("rows", z.count(1), 60);
         Due.due("whose", z.told(59, NONE, 0), 11);
+    }
+
+    /** The last ROW that there can be goes and comes as all others do. */
+    private static void backOfLast() {
+        Doc.at(42, "All is as in an IMAGE: true;");
+        HotHand x = Due.with(2);
+        x.image();
+        rowsOf(x, 1);
+        x.thrown(59, true, 3, 2);
+        x.thrown(59, false, 1, 3);
+        x.image();
+        x.thrown(59, true, 2, 1);
+        x.back(1);
+        dueLast(x, 1, new int[][] {{1, 3, 2}, {0, 1, 3}});
+        x.back(0);
+        rowsOf(x, 0);
+        dueLast(x, 0, new int[][] {});
+        x.thrown(59, false, 0, 0);
+        dueLast(x, 0, new int[][] {{0, 0, 0}});
+        x.back(1);
+        dueLast(x, 1, new int[][] {{1, 3, 2}, {0, 1, 3}});
+    }
+
+    private static void rowsOf(HotHand x, int thrower) {
+        for (int i = 0; i < 60; i++) {
+            x.row(thrower);
+        }
+    }
+
+    private static void dueLast(HotHand x, int thrower, int[][] due) {
+        Due.due("the last row's thrower", x.told(59, NONE, 0), thrower);
+        Due.due("its throws", x.told(59, NONE, 1), due.length);
+        int hits = 0;
+        for (int k = 0; k < due.length; k++) {
+            for (int what = 0; what <= 2; what++) {
+                Due.due("told(59, " + k + ", " + what + ")", x.told(59, k, what), due[k][what]);
+            }
+            hits += due[k][0];
+        }
+        Due.due("its hits", x.told(59, NONE, 2), hits);
     }
 
     private static void backRefused() {

@@ -135,6 +135,9 @@ final class AtLeans {
         Doc.at(19, "SHUFFLED: how many at least (what 0), of how many (1).");
         shuffleOf("HHM", "pairs hit hit", 2, 3);
         shuffleOf("HMH", "pairs hit hit", 3, 3);
+        // VALUES below 0: of HMH -7, of HHM and MHH -4.
+        shuffleOf("HMH", "hits - 3 runs", 3, 3);
+        shuffleOf("MHH", "hits - 3 runs", 2, 3);
         Doc.at(19, "NONE: none such, no VALUE.");
         for (int length = 0; length <= 24; length++) {
             HotHand x = rightOf("H".repeat(length), "share");

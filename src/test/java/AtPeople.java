@@ -198,6 +198,13 @@ final class AtPeople {
         groupsOf(people(40, 90, 10, 0), 3, 10, 2, 1, 1);
         // 0 10 | 40 50 60 | 90 100, and one without throws among them.
         groupsOf(people(50, 100, -1, 10, 60, 0, 40, 90), 3, 10 + 20 + 10, 2, 3, 2);
+        // All 12: 0 10 20 30 40 50 50 60 70 80 90 100.
+        HotHand all = people(0, 100, 10, 90, 20, 80, 30, 70, 40, 60, 50, 50);
+        groupsOf(all, 1, 2 * (50 + 40 + 30 + 20 + 10), 12, 0, 0);
+        // 0 to 40 from 20, the others from 70.
+        groupsOf(all, 2, 60 + 110, 5, 7, 0);
+        // 0 to 20 from 10, 30 to 60 from 50, the others from 80.
+        groupsOf(all, 3, 20 + 40 + 40, 3, 5, 4);
     }
 
     private static void groupsOfAlike() {

@@ -125,6 +125,9 @@ final class AtTrials {
         powerOf(12, 7, 3, 10, 223, 250);
         Due.due("just 12", x.need(7, 3, 10, 89), 12);
         Due.due("more than 12", x.need(7, 3, 10, 90), NONE);
+        // Of 13 it would be 30 hundredths, and 50.
+        Due.due("more than 12, which is not told", x.need(5, 3, 5, 26), NONE);
+        Due.due("more than 12, with another line", x.need(5, 3, 25, 48), NONE);
         Due.due("never sure", x.need(5, 9, 25, 100), NONE);
         Edge.of("p", 1, 9, NONE, p -> x.need(p, 3, 25, 0));
         Edge.of("e", 0, 9, NONE, e -> x.need(5, e, 25, 0));

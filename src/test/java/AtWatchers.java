@@ -215,6 +215,14 @@ final class AtWatchers {
         Due.due("with hard and guards as they were", guarded.foretold(0, 75, 75, 2), 1);
         Due.due("with hard and guards as they were", guarded.foretold(0, 69, 69, 2), 1);
         Due.due("with hard and guards as they were", guarded.foretold(0, 0, 100, 0), 75 + 69 + 78);
+        // 10 90 90, by the STATE of the second one's own LAW.
+        HotHand second = Due.with(2);
+        Due.law(second, 1, "hit 90 if state = 1; hit 10; state 1 if run > 0;");
+        Due.row(second, 1, "HHM");
+        int[] seconds = {10 + 90 + 90, 2, 3};
+        for (int what = 0; what <= 2; what++) {
+            Due.due("of the second one, " + what, second.foretold(1, 0, 100, what), seconds[what]);
+        }
         Doc.at(36, "FORETOLD (CHANCES 0 to 100; the first above the other one: of no THROWS): together (what 0), HITS (1),"
                 + " all (2).");
         for (int what = 0; what <= 2; what++) {

@@ -10,12 +10,19 @@ import java.util.Arrays;
 import java.util.List;
 import java.util.Set;
 import java.util.TreeSet;
+import java.util.regex.Matcher;
+import java.util.regex.Pattern;
 
 /** The rules of LANGUAGE.md that can be looked up in the compiled class and in the file's lines. */
 public final class LanguageTest {
     private static final String FACE = "feed thrower law belief measure fault seed row thrown deal told next value mean "
             + "joined lean right shuffle together streak power need strong hards off chosen hundredths groups above "
             + "hidden bets odds give worlds foretold heat pooled season say image back count";
+
+    // Of what rule 4 lists, what the class needs.
+    private static final Set<String> LIBRARY = Set.of("Arrays.fill", "System.arraycopy", "Integer.bitCount",
+            "Math.max", "Math.min", "Math.abs");
+    private static final Pattern CALL = Pattern.compile("\\b(Arrays|System|Integer|Long|Math|String)\\.\\w+");
 
     public static void main(String[] args) throws IOException {
         face();
@@ -78,6 +85,10 @@ public final class LanguageTest {
             boolean bad = code.matches(".*\\b(throw|throws|try|catch|synchronized|assert|float|double|package|enum)\\b.*")
                     || code.contains("->") || code.contains("::") || code.matches(".*\"\\s*\\+.*|.*\\+\\s*\".*");
             Due.due("line " + (i + 1) + ": " + line, bad, false);
+            Matcher call = CALL.matcher(line.startsWith("import ") ? "" : code);
+            while (call.find()) {
+                Due.due("in the library, line " + (i + 1) + ": " + call.group(), LIBRARY.contains(call.group()), true);
+            }
             Due.due("only one import: " + line, !line.startsWith("import ") || line.equals("import java.util.Arrays;"), true);
             Due.due("signs 1 to 127: " + line, line.chars().allMatch(c -> c < 128), true);
             if (code.matches("    (    )?(private |public |static |final )*[A-Za-z\\[\\]]+ ?\\w*\\(.*\\{")) {
