@@ -575,7 +575,7 @@ public final class HotHand {
     private int throwersLeaning(int way) {
         int found = 0;
         for (int thrower = 0; thrower < court.throwers; thrower++) {
-            if (allBehindBoth(thrower) > 0 && moreBehindHit(thrower) * way > 0) {
+            if (moreBehindHit(thrower) * way > 0) {
                 found++;
             }
         }
@@ -587,7 +587,7 @@ public final class HotHand {
         return (long) court.countBehind(thrower, true, 1, false) * court.countBehind(thrower, false, 1, false);
     }
 
-    /** The share behind a HIT less that behind a miss, times the number above. */
+    /** The share behind a HIT less that behind a miss, times the number above; so 0, too, if one isn't told. */
     private long moreBehindHit(int thrower) {
         return (long) court.countBehind(thrower, true, 1, true) * court.countBehind(thrower, false, 1, false)
                 - (long) court.countBehind(thrower, false, 1, true) * court.countBehind(thrower, true, 1, false);

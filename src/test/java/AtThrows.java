@@ -207,6 +207,12 @@ final class AtThrows {
         Due.due("19 and 4", x.deal(0, 23), 19);
         Due.due("throws", x.told(0, NONE, 1), 24);
         Due.due("hits", x.told(0, NONE, 2), 20);
+        // What was told ahead of those dealt counts as it stands.
+        x = Due.with(1);
+        Due.law(x, 0, "hit 100 if place = 3 and run = 1 and hits = 2; hit 100 if place = 4 and run = 2 and hits = 3; hit 0;");
+        Due.row(x, 0, "HMH");
+        Due.due("behind three told", x.deal(0, 2), 2);
+        Due.due("behind five", x.deal(0, 5), 0);
     }
 
     private static void dealRefused() {

@@ -223,6 +223,19 @@ final class AtWatchers {
         for (int what = 0; what <= 2; what++) {
             Due.due("of the second one, " + what, second.foretold(1, 0, 100, what), seconds[what]);
         }
+        // As hard as in each row of his: 70 50 in the second row, 80 60 in the third.
+        HotHand hard = Due.with(1);
+        Due.law(hard, 0, "hit 90; harder 10; guarded 20;");
+        Due.row(hard, 0, "");
+        for (int row = 1; row <= 2; row++) {
+            hard.row(0);
+            hard.thrown(row, true, 3 - row, 0);
+            hard.thrown(row, false, 3 - row, 1);
+        }
+        Due.due("of his second row", hard.foretold(0, 70, 70, 2), 1);
+        Due.due("of his second row", hard.foretold(0, 50, 50, 2), 1);
+        Due.due("of his third row", hard.foretold(0, 80, 80, 2), 1);
+        Due.due("of his third row", hard.foretold(0, 60, 60, 2), 1);
         Doc.at(36, "FORETOLD (CHANCES 0 to 100; the first above the other one: of no THROWS): together (what 0), HITS (1),"
                 + " all (2).");
         for (int what = 0; what <= 2; what++) {
