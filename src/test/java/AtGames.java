@@ -51,6 +51,10 @@ final class AtGames {
         game(two("hit 100 if place < 2; hit 100 if hits = 2; hit 0;", "hit 0;"), 5, 5, 0, 3, 1, 3, 1);
         game(two("hit 0 if place = 1; hit 100 if hits < 2; hit 0;", "hit 0;"), 8, 5, 0, 2, 1, 2, 1);
         game(two("hit 0;", "hit 100 if place = 0; hit 100 if place = 2 and hits = 1; hit 0;"), 8, 5, 0, 2, 1, 2, 1);
+        game(two("hit 100 if place = 0; hit 100 if place = 2 and miss = 1 and run = 0; hit 0;", "hit 0;"), 8, 5, 0, 2, 1, 2, 1);
+        game(two("hit 0;", "hit 100 if place = 0; hit 100 if place = 2 and miss = 1; hit 0;"), 8, 5, 0, 2, 1, 2, 1);
+        x = two("hit 0;", "hit 0 if place = 0; hit 100 if place < 3; hit 100 if run = 2 and miss = 0; hit 0;");
+        game(x, 8, 5, 0, 3, 1, 3, 1);
         game(two("hit 100 if state = 3; hit 0; hard 2; state 3 if hard = 2;", "hit 0;"), 3, 5, 0, 1, 1, 1, 1);
         game(two("hit 0;", "hit 100 if state = 3; hit 0; guard 2; state 3 if guard = 2;"), 4, 5, 0, 1, 1, 1, 1);
         game(two("hit 0;", "hit 0 if place < 3; hit 100 if miss = 3; hit 0;"), 8, 5, 0, 1, 1, 1, 1);
